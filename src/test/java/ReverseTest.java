@@ -126,5 +126,23 @@ public final class ReverseTest {
         Check.due("entries", 200, y.many(0));
         Check.due("the last entry's sum", 8, y.told(3, 199));
         Check.refused("reverse when full", Check.MEANING, () -> y.reverse(1, 0));
+        roomForAllButOne();
+    }
+
+    private static void roomForAllButOne() {
+        ShopLedger x = new ShopLedger();
+        for (int batch = 0; batch < 2; batch++) {
+            x.line(0, 0, 0, 2);
+            x.line(1, 0, 0, -1);
+            x.line(2, 0, 0, -1);
+            x.put();
+        }
+        Setup.corrections(x, 96);
+        Check.due("entries", 198, x.many(0));
+        Check.refused("reverse of three where two have room", Check.MEANING, () -> x.reverse(0, 0));
+        Check.refused("reverse of three where two have room", Check.MEANING, () -> x.reverse(1, 0));
+        Check.due("entries", 198, x.many(0));
+        Check.due("reverse of two where two have room", 98, x.reverse(97, 0));
+        Check.due("entries", 200, x.many(0));
     }
 }
