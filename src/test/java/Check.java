@@ -13,6 +13,19 @@ final class Check {
     private Check() {
     }
 
+    /** A test of one sentence of the document; what it throws counts as one wrong answer. */
+    static void sentence(String text, Runnable test) {
+        int before = wrong;
+        try {
+            test.run();
+        } catch (RuntimeException e) {
+            fail("a call that is not refused threw " + e);
+        }
+        if (wrong != before) {
+            System.out.println("BROKEN: " + text);
+        }
+    }
+
     static void due(String call, long want, long got) {
         if (got != want) {
             fail(call + " answered " + got + ", due is " + want);
@@ -30,30 +43,55 @@ final class Check {
         System.out.println(text);
     }
 
+    /** The call throws nothing; what it answers is looked at elsewhere. */
+    static void taken(String call, Runnable body) {
+        try {
+            body.run();
+        } catch (RuntimeException e) {
+            fail(call + " threw " + e.getClass().getSimpleName() + ", due is an answer");
+        }
+    }
+
     /** The call throws just that class, and no class below it, as the machine's own would be. */
-    static void refused(String call, Class<? extends RuntimeException> want, Runnable body) {
+    static boolean refused(String call, Class<? extends RuntimeException> want, Runnable body) {
         try {
             body.run();
             fail(call + " threw nothing, due is " + want.getSimpleName());
+            return false;
         } catch (RuntimeException e) {
             if (e.getClass() != want) {
                 fail(call + " threw " + e.getClass().getSimpleName() + ", due is " + want.getSimpleName());
             }
+            return e.getClass() == want;
         }
     }
 
-    /**
-     * The call is refused in the state that setup makes, and a second object that is never asked it
-     * tells the same afterwards. Two objects, as the telling itself takes many of the 512 calls.
-     */
+    /** The call is refused in the state that setup makes, and what is told afterwards is as it was. */
     static void refusedUnchanged(String call, Class<? extends RuntimeException> want,
             Consumer<ShopLedger> setup, ToLongFunction<ShopLedger> body) {
-        ShopLedger asked = new ShopLedger();
-        ShopLedger spared = new ShopLedger();
-        setup.accept(asked);
-        setup.accept(spared);
-        refused(call, want, () -> body.applyAsLong(asked));
-        same("the state behind " + call, Telling.all(spared), Telling.all(asked));
+        refusedUnchanged(call, want, setup, Telling.behind(setup), body);
+    }
+
+    /** The same for callers that have the telling of the state already. */
+    static void refusedUnchanged(String call, Class<? extends RuntimeException> want,
+            Consumer<ShopLedger> setup, String before, ToLongFunction<ShopLedger> body) {
+        ShopLedger x = new ShopLedger();
+        setup.accept(x);
+        if (refused(call, want, () -> body.applyAsLong(x))) {
+            String behind = Telling.behind(y -> {
+                setup.accept(y);
+                quietly(() -> body.applyAsLong(y));
+            });
+            same("the state behind " + call, before, behind);
+        }
+    }
+
+    private static void quietly(Runnable body) {
+        try {
+            body.run();
+        } catch (RuntimeException e) {
+            // That it is refused, and how, was looked at before.
+        }
     }
 
     static void end(String test) {
