@@ -39,6 +39,7 @@ public final class FaceTest {
 
     public static void main(String[] args) {
         Check.sentence("The public face", FaceTest::face);
+        Check.sentence("no other public, protected or package-visible member", FaceTest::noOtherMember);
         Check.sentence("No entries, all months open, no stocks, rates, pieces", FaceTest::newObject);
         Check.sentence("all months open: each takes a batch, a correction and a reversal", FaceTest::allOpen);
         Check.sentence("An object is used for at most 512 calls: the 512th is still answered",
@@ -66,7 +67,23 @@ public final class FaceTest {
         }
         Check.due("modifiers", Modifier.PUBLIC | Modifier.FINAL, ShopLedger.class.getModifiers());
         Check.due("public constructors", 1, ShopLedger.class.getConstructors().length);
-        Check.due("public fields", 0, ShopLedger.class.getFields().length);
+    }
+
+    private static void noOtherMember() {
+        Check.due("constructors", 1, ShopLedger.class.getDeclaredConstructors().length);
+        for (Field field : ShopLedger.class.getDeclaredFields()) {
+            if (!Modifier.isPrivate(field.getModifiers())) {
+                Check.fail("a field that is not private: " + field.getName());
+            }
+        }
+        for (Class<?> inside : ShopLedger.class.getDeclaredClasses()) {
+            int modifiers = inside.getModifiers();
+            if (!Modifier.isStatic(modifiers) || Modifier.isPublic(modifiers) || Modifier.isProtected(modifiers)) {
+                Check.fail("a class inside that is not static, or seen from outside: " + inside.getName());
+            }
+        }
+        Check.same("what the class extends", Object.class.getName(), ShopLedger.class.getSuperclass().getName());
+        Check.due("what it implements", 0, ShopLedger.class.getInterfaces().length);
     }
 
     private static String signature(Method m) {

@@ -23,7 +23,6 @@ public final class ForeignEdgeTest {
         Check.sentence("rounded to the nearest (a half up)", ForeignEdgeTest::half);
         Check.sentence("no units are no cents", ForeignEdgeTest::noUnits);
         Check.sentence("the most units by the largest rate", ForeignEdgeTest::largest);
-        Check.sentence("foreign changes nothing", ForeignEdgeTest::changesNothing);
         Check.end("ForeignEdgeTest");
     }
 
@@ -197,15 +196,5 @@ public final class ForeignEdgeTest {
         ShopLedger x = new ShopLedger();
         x.rate(2, 0, 100_000_000);
         Check.due("the largest of all", 10_000_000_000_000L, x.foreign(2, 0, 1_000_000_000));
-    }
-
-    private static void changesNothing() {
-        String before = Telling.behind(Setup::some);
-        Check.same("the state behind foreign sums", before, Telling.behind(x -> {
-            Setup.some(x);
-            x.foreign(2, 100, 0);
-            x.foreign(2, 199, 1_000_000_000);
-            x.foreign(2, 365, 1);
-        }));
     }
 }

@@ -18,7 +18,6 @@ public final class PieceEdgeTest {
         Check.sentence("opened: the largest weight beside the least", PieceEdgeTest::leastAndMost);
         Check.sentence("opened: the parts sum to the balance", PieceEdgeTest::sumToTheBalance);
         Check.sentence("opened: weights of orders are no weights of pieces", PieceEdgeTest::otherWeights);
-        Check.sentence("opened changes nothing", PieceEdgeTest::changesNothing);
         Check.end("PieceEdgeTest");
     }
 
@@ -229,15 +228,5 @@ public final class PieceEdgeTest {
         x.weight(1, 1);
         expect(x, 33, 33, 34);
         Check.due("share of order 0", 99, x.share(0, 100));
-    }
-
-    private static void changesNothing() {
-        String before = Telling.behind(Setup::some);
-        Check.same("the state behind openings", before, Telling.behind(x -> {
-            Setup.some(x);
-            x.opened(0);
-            x.opened(1);
-            x.opened(0);
-        }));
     }
 }

@@ -16,7 +16,6 @@ public final class ShareEdgeTest {
         Check.sentence("the largest sums by the largest weights", ShareEdgeTest::largest);
         Check.sentence("the largest weight beside the least", ShareEdgeTest::leastAndMost);
         Check.sentence("they sum to the sum", ShareEdgeTest::sumToTheSum);
-        Check.sentence("share changes nothing", ShareEdgeTest::changesNothing);
         Check.end("ShareEdgeTest");
     }
 
@@ -157,15 +156,5 @@ public final class ShareEdgeTest {
             expectExact(sum, 0, 0, 1, 1_000_000, 0, 999_999, 1, 0);
             expectExact(sum, 3, 1, 4, 1, 5, 9, 2, 6);
         }
-    }
-
-    private static void changesNothing() {
-        String before = Telling.behind(Setup::some);
-        Check.same("the state behind shares", before, Telling.behind(x -> {
-            Setup.some(x);
-            x.share(0, 0);
-            x.share(2, 1_000_000_000);
-            x.share(7, 1);
-        }));
     }
 }

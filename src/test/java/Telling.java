@@ -1,8 +1,10 @@
+import java.util.LinkedHashMap;
+import java.util.Map;
 import java.util.function.Consumer;
 import java.util.function.LongSupplier;
 
 /**
- * All that objects of one state can be made to tell, as one text. Asking changes an object and takes
+ * All that objects of one state can be made to tell, as text. Asking changes an object and takes
  * of its 512 calls, so each kind of question goes to a new one, and takes 290 calls at the most.
  */
 final class Telling {
@@ -10,24 +12,43 @@ final class Telling {
     private static final int DAYS_A_TIME = 183;
 
     private final Consumer<ShopLedger> setup;
-    private final StringBuilder text = new StringBuilder();
+    private final Map<String, String> parts = new LinkedHashMap<>();
+    /** The part that is being told. */
+    private StringBuilder text = new StringBuilder();
 
     private Telling(Consumer<ShopLedger> setup) {
         this.setup = setup;
     }
 
     static String behind(Consumer<ShopLedger> setup) {
+        return parts(setup).toString();
+    }
+
+    /** The same by parts of the state, each with its name. */
+    static Map<String, String> parts(Consumer<ShopLedger> setup) {
         Telling telling = new Telling(setup);
-        telling.counts(telling.made());
-        telling.entries();
-        telling.reversals(telling.made());
-        telling.lines();
-        telling.months(telling.made());
-        telling.stocks();
-        telling.rates();
-        telling.weights(telling.made());
-        telling.pieces(telling.made());
-        return telling.text.toString();
+        telling.counts();
+        telling.part("entries", telling::entries);
+        telling.part("reversals", () -> telling.reversals(telling.made()));
+        telling.part("lines", telling::lines);
+        telling.part("months", () -> telling.months(telling.made()));
+        for (int stock = 0; stock < 4; stock++) {
+            int s = stock;
+            telling.part("stock " + stock, () -> telling.stock(s));
+        }
+        for (int money = 0; money < 3; money++) {
+            int m = money;
+            telling.part("money " + money, () -> telling.money(m));
+        }
+        telling.part("weights", () -> telling.weights(telling.made()));
+        telling.part("pieces", () -> telling.pieces(telling.made()));
+        return telling.parts;
+    }
+
+    private void part(String name, Runnable telling) {
+        text = new StringBuilder();
+        telling.run();
+        parts.put(name, text.toString());
     }
 
     private ShopLedger made() {
@@ -36,14 +57,27 @@ final class Telling {
         return x;
     }
 
-    private void counts(ShopLedger x) {
+    private void counts() {
+        ShopLedger x = made();
         for (int what = 0; what < 5; what++) {
-            add("many", x.many(what));
+            int w = what;
+            part("many " + what, () -> add("many", x.many(w)));
         }
         for (int what = 0; what < 3; what++) {
-            for (int k = 0; k < (what == 2 ? 12 : 8); k++) {
-                add("balance", x.told(what, k));
-            }
+            int w = what;
+            part("balances " + what, () -> balances(x, w));
+        }
+    }
+
+    private void balances(ShopLedger x, int what) {
+        for (int k = 0; k < (what == 2 ? 12 : 8); k++) {
+            add("balance", x.told(what, k));
+        }
+    }
+
+    private void allBalances(ShopLedger x) {
+        for (int what = 0; what < 3; what++) {
+            balances(x, what);
         }
     }
 
@@ -69,7 +103,7 @@ final class Telling {
             int b = batch;
             ask("reverse", () -> x.reverse(b, 11));
         }
-        counts(x);
+        allBalances(x);
     }
 
     /** The lines told show when they are put, and their number by how many more there is room for. */
@@ -78,7 +112,8 @@ final class Telling {
         int before = x.many(0);
         ask("put", x::put);
         entries(x, before, x.many(0));
-        counts(x);
+        allBalances(x);
+        add("lines behind", x.many(2));
         ShopLedger y = made();
         for (int i = 0; i < 17; i++) {
             ask("line", () -> y.line(7, 7, 11, 1));
@@ -88,21 +123,18 @@ final class Telling {
     private void months(ShopLedger x) {
         for (int month = 0; month < 12; month++) {
             int m = month;
-            ask("correct", () -> x.correct(0, 1, 0, m, 1));
+            askWhether("correct", () -> x.correct(0, 1, 0, m, 1));
         }
         for (int i = 0; i < 13; i++) {
             ask("close", x::close);
         }
     }
 
-    private void stocks() {
-        for (int stock = 0; stock < 4; stock++) {
-            layers(made(), stock);
-            ShopLedger x = made();
-            for (int i = 0; i < 13; i++) {
-                int s = stock;
-                ask("stock", () -> x.stock(s, 1, 1));
-            }
+    private void stock(int stock) {
+        layers(made(), stock);
+        ShopLedger x = made();
+        for (int i = 0; i < 13; i++) {
+            ask("stock", () -> x.stock(stock, 1, 1));
         }
     }
 
@@ -122,21 +154,18 @@ final class Telling {
     }
 
     /** 10,000 units are as many cents as the rate. */
-    private void rates() {
-        for (int money = 0; money < 3; money++) {
-            int m = money;
-            for (int from = 0; from <= 365; from += DAYS_A_TIME) {
-                ShopLedger x = made();
-                for (int day = from; day < from + DAYS_A_TIME; day++) {
-                    int d = day;
-                    ask("foreign", () -> x.foreign(m, d, 10_000));
-                }
-            }
+    private void money(int money) {
+        for (int from = 0; from <= 365; from += DAYS_A_TIME) {
             ShopLedger x = made();
-            for (int day = 355; day <= 365; day++) {
+            for (int day = from; day < from + DAYS_A_TIME; day++) {
                 int d = day;
-                ask("rate", () -> x.rate(m, d, 1));
+                ask("foreign", () -> x.foreign(money, d, 10_000));
             }
+        }
+        ShopLedger x = made();
+        for (int day = 355; day <= 365; day++) {
+            int d = day;
+            ask("rate", () -> x.rate(money, d, 1));
         }
     }
 
@@ -167,7 +196,7 @@ final class Telling {
             x.line(0, order, 11, (order + 1) * 1_000_003);
         }
         x.line(0, 7, 11, -28 * 1_000_003);
-        ask("put", x::put);
+        askWhether("put", x::put);
         opened(x);
     }
 
@@ -180,6 +209,14 @@ final class Telling {
 
     private void add(String name, long answer) {
         text.append(name).append(' ').append(answer).append("; ");
+    }
+
+    /** Whether it is taken: the number of a batch would tell how many there were, which is told elsewhere. */
+    private void askWhether(String name, LongSupplier call) {
+        ask(name, () -> {
+            call.getAsLong();
+            return 0;
+        });
     }
 
     private void ask(String name, LongSupplier call) {
