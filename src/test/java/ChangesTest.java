@@ -81,8 +81,9 @@ public final class ChangesTest {
     private static void told() {
         expect("told", x -> {
             for (int what = 0; what < 8; what++) {
-                x.told(what, 0);
-                x.told(what, 3);
+                for (int k = 0; k < (what < 2 ? 8 : what == 2 ? 12 : 4); k++) {
+                    x.told(what, k);
+                }
             }
         }, NOTHING);
         expect("many", x -> {
